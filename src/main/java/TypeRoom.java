@@ -67,9 +67,10 @@ public final class TypeRoom {
         }
         purse = new Purse();
         rules = new Rules(purse);
-        texts = new Texts(purse, rules);
+        Marks marks = new Marks();
+        texts = new Texts(purse, rules, marks);
         filler = new Filler(rules);
-        setter = new Setter(manuscript, purse, rules, texts, filler);
+        setter = new Setter(manuscript, purse, rules, texts, filler, marks);
         proof = new Proof();
         kept = new Proof();
     }
@@ -289,11 +290,11 @@ public final class TypeRoom {
             case 15:
                 return formerCount;
             case 16:
-                return rules.names.count();
+                return rules.names.rows();
             case 17:
-                return rules.patterns.count();
+                return rules.patterns.rows();
             case 18:
-                return rules.exceptions.count();
+                return rules.exceptions.rows();
             case 19:
                 return answer.size;
             default:
@@ -442,7 +443,7 @@ public final class TypeRoom {
     }
 
     private static boolean isWordSign(int sign) {
-        return isLetter(sign) || isDigit(sign);
+        return sign >= 'a' && sign <= 'z' || sign >= 'A' && sign <= 'Z' || sign >= '0' && sign <= '9';
     }
 
     private static int great(int sign) {
@@ -462,7 +463,6 @@ public final class TypeRoom {
 
         private int[] cells;
         private int size;
-        private boolean gap;
 
         Row() {
             cells = new int[16];
@@ -499,7 +499,6 @@ public final class TypeRoom {
 
         void clear() {
             size = 0;
-            gap = false;
         }
 
         void copy(Row other) {
@@ -533,26 +532,21 @@ public final class TypeRoom {
             size -= to - from;
         }
 
-        /** Words alone are kept, with one plain blank between, from a start on. */
-        void putWord(int code, int start, int bits) {
-            if ((code & (HARD | SIGN_BITS)) == BLANK) {
-                gap = true;
-                return;
-            }
-            if (gap && size > start) {
-                put(BLANK);
-            }
-            gap = false;
-            put(code & bits);
-        }
-
+        /** Pours the words alone, with one plain blank between. */
         void pack(Row other, int from, int to, int bits) {
             int start = size;
-            gap = false;
+            boolean gap = false;
             for (int i = from; i < to; i++) {
-                putWord(other.get(i), start, bits);
+                int code = other.get(i);
+                boolean blank = (code & (HARD | SIGN_BITS)) == BLANK;
+                if (gap && !blank && size > start) {
+                    put(BLANK);
+                }
+                if (!blank) {
+                    put(code & bits);
+                }
+                gap = blank;
             }
-            gap = false;
         }
 
         boolean like(Row other) {
@@ -592,19 +586,15 @@ public final class TypeRoom {
         private void putRoman(int value, int down) {
             int left = value;
             for (int k = 0; k < ROMAN_VALUES.length; k++) {
+                // Singles and pairs of signs stand in turn: three places for two values.
+                int at = k / 2 * 3 + k % 2;
+                int behind = k % 2 == 0 ? at + 1 : at + 2;
                 for (int turn = 0; turn < 3 && left >= ROMAN_VALUES[k]; turn++) {
                     left -= ROMAN_VALUES[k];
-                    putRomanSigns(k, down);
+                    for (int i = at; i < behind && i < ROMAN_SIGNS.length(); i++) {
+                        put(ROMAN_SIGNS.charAt(i) - down);
+                    }
                 }
-            }
-        }
-
-        private void putRomanSigns(int k, int down) {
-            // Singles and pairs stand in turn: three places for two values.
-            int at = k / 2 * 3 + k % 2;
-            int many = k % 2 == 0 ? 1 : 2;
-            for (int i = 0; i < many && at + i < ROMAN_SIGNS.length(); i++) {
-                put(ROMAN_SIGNS.charAt(at + i) - down);
             }
         }
 
@@ -656,16 +646,16 @@ public final class TypeRoom {
             ends.put(signs.size);
         }
 
-        int count() {
+        int rows() {
             return ends.size;
         }
 
         int from(int k) {
-            return k <= 0 ? 0 : ends.get(k - 1);
+            return k >= 1 && k <= ends.size ? ends.cells[k - 1] : 0;
         }
 
         int to(int k) {
-            return ends.get(k);
+            return k >= 0 && k < ends.size ? ends.cells[k] : 0;
         }
 
         void copy(Shelf other) {
@@ -861,17 +851,17 @@ public final class TypeRoom {
             }
             int known = names.seek(row, from, nameEnd);
             if (known == NONE) {
-                if (names.count() >= MOST_MACROS) {
+                if (names.rows() >= MOST_MACROS) {
                     purse.fail(FAULT_MANY);
                 }
-                known = names.count();
+                known = names.rows();
                 names.signs.pour(row, from, nameEnd);
                 names.close();
                 arities.put(0);
                 bodyOf.put(0);
             }
             arities.alter(known, row.get(digit) - '0');
-            bodyOf.alter(known, bodies.count());
+            bodyOf.alter(known, bodies.rows());
             bodies.signs.pour(row, digit + 2, to);
             bodies.close();
         }
@@ -911,7 +901,7 @@ public final class TypeRoom {
             start = from;
             for (int i = from; i <= to; i++) {
                 if (i == to || row.get(i) == BLANK) {
-                    if (shelf.count() >= most) {
+                    if (shelf.rows() >= most) {
                         purse.fail(FAULT_MANY);
                     }
                     purse.spend(WORD_WORK);
@@ -1011,7 +1001,7 @@ public final class TypeRoom {
         /** The index marks whose keys are the first of their like, in the index's order. */
         void order(Row out) {
             out.clear();
-            for (int key = 0; key < keys.count(); key++) {
+            for (int key = 0; key < keys.rows(); key++) {
                 int place = 0;
                 while (place < out.size && compareKeys(out.get(place), key) < 0) {
                     place++;
@@ -1046,7 +1036,7 @@ public final class TypeRoom {
         /** A key with the labels of its pages, each once, rising. */
         void putEntry(int key, Row out) {
             pages.clear();
-            for (int i = 0; i < keys.count(); i++) {
+            for (int i = 0; i < keys.rows(); i++) {
                 int page = keyAt.get(i);
                 if ((pages.size == 0 || pages.get(pages.size - 1) != page) && compareKeys(i, key) == 0) {
                     pages.put(page);
@@ -1063,10 +1053,10 @@ public final class TypeRoom {
                 next = next - i >= 3 ? next : i + 1;
                 out.put(',');
                 out.put(BLANK);
-                putLabel(out, pages.get(i));
+                out.putNumber(first + pages.get(i), system);
                 if (next > i + 1) {
                     out.put('-');
-                    putLabel(out, pages.get(next - 1));
+                    out.putNumber(first + pages.get(next - 1), system);
                 }
             }
         }
@@ -1105,6 +1095,7 @@ public final class TypeRoom {
         private static final int MOST_DEPTH = 30;
         private static final int MOST_NUMBER = 9999;
         private static final int MOST_KEY = 12;
+        private static final int SYSTEMS = 5;
         private static final int MOST_NOTES = 60;
         private static final int MOST_LABELS = 60;
         private static final int MOST_KEYS = 100;
@@ -1130,12 +1121,13 @@ public final class TypeRoom {
         private int inArguments;
         private int frame;
         private int frameArity;
+        private boolean gap;
 
-        Texts(Purse purse, Rules rules) {
+        Texts(Purse purse, Rules rules, Marks marks) {
             this.purse = purse;
             this.rules = rules;
-            now = new Marks();
-            before = now;
+            now = marks;
+            before = marks;
             row = new Row();
             arena = new Row();
             spans = new Row();
@@ -1166,6 +1158,13 @@ public final class TypeRoom {
             inArguments = 0;
             frame = 0;
             frameArity = 0;
+            gap = false;
+        }
+
+        /** Signs that are in the row from the beginning, as a word of their own. */
+        void beginWith(Row signs) {
+            row.pour(signs, 0, signs.size);
+            gap = true;
         }
 
         /** A text of its own, whose signs stay in the arena with all their blanks. */
@@ -1255,8 +1254,20 @@ public final class TypeRoom {
             } else if (kind == IF) {
                 int chosen = spanBase + (sameArguments(heldBase) ? 4 : 6);
                 inside(source, spans.get(chosen), spans.get(chosen + 1), depth);
+            } else if (kind <= WORD) {
+                reshape(kind, heldBase);
+            } else if (kind <= NUM) {
+                reckon(kind, heldBase);
+            } else if (kind <= SHOW) {
+                tellCounter(kind, heldBase);
+            } else if (kind == NOTE) {
+                note(heldBase);
+            } else if (kind == LABEL) {
+                label(heldBase);
+            } else if (kind == INDEX) {
+                index(heldBase);
             } else {
-                build(kind, heldBase);
+                refer(kind, heldBase);
             }
             if (inArguments > 0) {
                 arena.remove(bottom, top);
@@ -1336,12 +1347,19 @@ public final class TypeRoom {
             putPart(held.get(frame + 2 * k), held.get(frame + 2 * k + 1));
         }
 
+        /** A sign comes to the row at hand; the block's own row keeps words alone. */
         private void put(int code) {
             purse.spend(1);
             if (inArguments > 0) {
                 arena.put(code);
+            } else if ((code & (HARD | SIGN_BITS)) == BLANK) {
+                gap = true;
             } else {
-                row.putWord(code, 0, ALL_BITS);
+                if (gap && row.size > 0) {
+                    row.put(BLANK);
+                }
+                gap = false;
+                row.put(code);
             }
         }
 
@@ -1355,25 +1373,6 @@ public final class TypeRoom {
         private void putScratch() {
             for (int i = 0; i < scratch.size; i++) {
                 put(scratch.get(i) | style << STYLE_SHIFT);
-            }
-        }
-
-        private void build(int kind, int base) {
-            if (kind <= WORD) {
-                reshape(kind, base);
-            } else if (kind <= SHOW) {
-                scratch.clear();
-                int value = reckon(kind, base);
-                scratch.putNumber(value, kind >= NUM ? number(base + 2, 1, 5) : 1);
-                putScratch();
-            } else if (kind == NOTE) {
-                note(base);
-            } else if (kind == LABEL) {
-                label(base);
-            } else if (kind == INDEX) {
-                index(base);
-            } else {
-                refer(kind, base);
             }
         }
 
@@ -1439,21 +1438,29 @@ public final class TypeRoom {
             }
         }
 
-        private int reckon(int kind, int base) {
+        private void reckon(int kind, int base) {
+            int value;
+            int system = 1;
             switch (kind) {
                 case LEN:
-                    return held.get(base + 1) - held.get(base);
+                    value = held.get(base + 1) - held.get(base);
+                    break;
                 case AT:
-                    return placeOf(base);
+                    value = placeOf(base);
+                    break;
                 case ADD:
-                    return number(base, -MOST_NUMBER, MOST_NUMBER) + number(base + 2, -MOST_NUMBER, MOST_NUMBER);
+                    value = number(base, -MOST_NUMBER, MOST_NUMBER) + number(base + 2, -MOST_NUMBER, MOST_NUMBER);
+                    break;
                 case MUL:
-                    return number(base, -MOST_NUMBER, MOST_NUMBER) * number(base + 2, -MOST_NUMBER, MOST_NUMBER);
-                case NUM:
-                    return number(base, -MOST_NUMBER, MOST_NUMBER);
+                    value = number(base, -MOST_NUMBER, MOST_NUMBER) * number(base + 2, -MOST_NUMBER, MOST_NUMBER);
+                    break;
                 default:
-                    return counter(kind, base);
+                    value = number(base, -MOST_NUMBER, MOST_NUMBER);
+                    system = number(base + 2, 1, SYSTEMS);
             }
+            scratch.clear();
+            scratch.putNumber(value, system);
+            putScratch();
         }
 
         private int placeOf(int base) {
@@ -1468,24 +1475,25 @@ public final class TypeRoom {
             return NONE;
         }
 
-        private int counter(int kind, int base) {
+        private void tellCounter(int kind, int base) {
             needKey(base);
-            number(base + 2, 1, 5);
+            int system = number(base + 2, 1, SYSTEMS);
             int known = counters.seek(arena, held.get(base), held.get(base + 1));
-            if (kind == SHOW) {
-                return known == NONE ? 0 : values.get(known);
-            }
-            if (known == NONE) {
-                if (counters.count() >= MOST_COUNTERS) {
+            if (known == NONE && kind == STEP) {
+                if (counters.rows() >= MOST_COUNTERS) {
                     purse.fail(FAULT_MANY);
                 }
-                known = counters.count();
+                known = counters.rows();
                 counters.signs.pour(arena, held.get(base), held.get(base + 1));
                 counters.close();
                 values.put(0);
             }
-            values.alter(known, values.get(known) + 1);
-            return values.get(known);
+            if (kind == STEP) {
+                values.alter(known, values.get(known) + 1);
+            }
+            scratch.clear();
+            scratch.putNumber(known == NONE ? 0 : values.get(known), system);
+            putScratch();
         }
 
         private boolean sameArguments(int base) {
@@ -1548,7 +1556,7 @@ public final class TypeRoom {
             if (now.labels.seek(arena, from, to) != NONE) {
                 purse.fail(FAULT_TWICE);
             }
-            if (now.labels.count() >= MOST_LABELS) {
+            if (now.labels.rows() >= MOST_LABELS) {
                 purse.fail(FAULT_MANY);
             }
             now.labels.signs.pourMasked(arena, from, to, SIGN_BITS);
@@ -1564,7 +1572,7 @@ public final class TypeRoom {
             if (now.keys.signs.size == size) {
                 purse.fail(FAULT_WANTED);
             }
-            if (now.keys.count() >= MOST_KEYS) {
+            if (now.keys.rows() >= MOST_KEYS) {
                 purse.fail(FAULT_MANY);
             }
             now.keys.close();
@@ -1600,7 +1608,7 @@ public final class TypeRoom {
             } else if (kind == REF) {
                 scratch.pour(before.refs.signs, before.refs.from(label), before.refs.to(label));
             } else {
-                before.putLabel(scratch, before.labelAt.get(label));
+                scratch.putNumber(before.first + before.labelAt.get(label), before.system);
             }
             putScratch();
         }
@@ -1672,10 +1680,16 @@ public final class TypeRoom {
                 digits[i] = 0;
             }
             int size = to - from;
-            if (size > MOST_LETTERS || partAsException(row, from, to)) {
+            if (size > MOST_LETTERS) {
                 return;
             }
-            for (int k = 0; k < rules.patterns.count(); k++) {
+            for (int k = rules.exceptions.rows() - 1; k >= 0; k--) {
+                if (isExceptionOf(k, row, from, to)) {
+                    layException(k);
+                    return;
+                }
+            }
+            for (int k = 0; k < rules.patterns.rows(); k++) {
                 for (int at = 0; at < size + 2; at++) {
                     layPattern(k, at, row, from, to);
                 }
@@ -1689,21 +1703,15 @@ public final class TypeRoom {
             }
         }
 
-        private boolean partAsException(Row row, int from, int to) {
-            for (int k = rules.exceptions.count() - 1; k >= 0; k--) {
-                if (isExceptionOf(k, row, from, to)) {
-                    int letters = 0;
-                    for (int i = rules.exceptions.from(k); i < rules.exceptions.to(k); i++) {
-                        if (rules.exceptions.signs.get(i) != '-') {
-                            letters++;
-                        } else if (letters < MOST_LETTERS) {
-                            digits[letters + 1] = 1;
-                        }
-                    }
-                    return true;
+        private void layException(int k) {
+            int letters = 0;
+            for (int i = rules.exceptions.from(k); i < rules.exceptions.to(k); i++) {
+                if (rules.exceptions.signs.get(i) != '-') {
+                    letters++;
+                } else if (letters < MOST_LETTERS) {
+                    digits[letters + 1] = 1;
                 }
             }
-            return false;
         }
 
         private boolean isExceptionOf(int k, Row row, int from, int to) {
@@ -1785,34 +1793,26 @@ public final class TypeRoom {
         void fill(Row row, int from, int to, int firstRoom, int otherRoom) {
             partedFrom = NONE;
             int at = from;
-            int room = Math.max(1, firstRoom);
             for (int turns = to - from; turns > 0 && at < to; turns--) {
-                int stop = lineStop(row, at, from, to, room);
-                // At the limit itself there is no place for a -: the word was cut there.
-                boolean put = stop < at + room && pointAt(row, stop, from, to) == HYPHEN_POINT;
+                int limit = Math.min(to, at + Math.max(1, at == from ? firstRoom : otherRoom));
+                int wordStop = limit;
+                while (limit < to && wordStop > at && row.get(wordStop) != BLANK) {
+                    wordStop--;
+                }
+                int stop = wordStop > at ? wordStop : limit;
+                int word = wordStop > at ? wordStop + 1 : at;
+                boolean put = false;
+                for (int place = limit; place > word; place--) {
+                    int point = pointAt(row, place, from, to);
+                    if (point == DASH_POINT || point == HYPHEN_POINT && place < limit) {
+                        stop = place;
+                        put = point == HYPHEN_POINT;
+                        break;
+                    }
+                }
                 putLine(at, stop, put);
                 at = row.get(stop) == BLANK ? stop + 1 : stop;
-                room = Math.max(1, otherRoom);
             }
-        }
-
-        private int lineStop(Row row, int at, int from, int to, int room) {
-            int limit = at + room;
-            if (to <= limit) {
-                return to;
-            }
-            int wordStop = limit;
-            while (wordStop > at && row.get(wordStop) != BLANK) {
-                wordStop--;
-            }
-            int word = wordStop > at ? wordStop + 1 : at;
-            for (int place = limit; place > word; place--) {
-                int point = pointAt(row, place, from, to);
-                if (point == DASH_POINT || point == HYPHEN_POINT && place < limit) {
-                    return place;
-                }
-            }
-            return wordStop > at ? wordStop : limit;
         }
 
         /** Way 1: the lines that cost least; false if there are none that fit. */
@@ -1959,7 +1959,7 @@ public final class TypeRoom {
 
         /** The signs put last become a line; those of notes don't flow. */
         void finish(int origin, int flag, boolean flows) {
-            int line = made.count();
+            int line = made.rows();
             if (line >= MOST_LINES) {
                 purse.fail(FAULT_MANY);
             }
@@ -2128,7 +2128,7 @@ public final class TypeRoom {
         }
 
         void takeCell(Row row) {
-            int column = cells.count() - (rowEnds.size > 0 ? rowEnds.get(rowEnds.size - 1) : 0);
+            int column = cells.rows() - (rowEnds.size > 0 ? rowEnds.get(rowEnds.size - 1) : 0);
             cells.signs.pour(row, 0, row.size);
             cells.close();
             if (column >= 0 && column < MOST_CELLS) {
@@ -2138,7 +2138,7 @@ public final class TypeRoom {
         }
 
         void closeRow() {
-            rowEnds.put(cells.count());
+            rowEnds.put(cells.rows());
         }
 
         void narrow(int wide) {
@@ -2159,30 +2159,40 @@ public final class TypeRoom {
             }
         }
 
-        /** Makes the lines of a row; the first row has a line of - behind it. */
-        void printRow(int r, int origin) {
-            int cell = r > 0 ? rowEnds.get(r - 1) : 0;
-            int many = 1;
-            filler.openPlain();
-            for (int c = 0; c < columns; c++) {
-                firsts[c] = filler.starts.size;
-                if (cell + c < rowEnds.get(r)) {
-                    filler.fill(cells.signs, cells.from(cell + c), cells.to(cell + c), widths[c], widths[c]);
-                }
-                firsts[c + 1] = filler.starts.size;
-                many = Math.max(many, firsts[c + 1] - firsts[c]);
-            }
-            for (int i = 0; i < many; i++) {
-                printParts(i);
-                galley.finish(origin, r == 0 || i + 1 < many ? Galley.STAYS : 0, true);
-            }
-            if (r == 0) {
+        /** Makes the lines of all rows; the first one has a line of - behind it. */
+        void print(int origin) {
+            for (int r = 0; r < rowEnds.size; r++) {
+                int cell = r > 0 ? rowEnds.get(r - 1) : 0;
+                int many = 1;
+                filler.openPlain();
                 for (int c = 0; c < columns; c++) {
-                    galley.made.signs.putMany('-', c > 0 ? 1 : 0);
-                    galley.made.signs.putMany('+', c > 0 ? 1 : 0);
-                    galley.made.signs.putMany('-', c > 0 ? widths[c] + 1 : widths[c]);
+                    firsts[c] = filler.starts.size;
+                    if (cell + c < rowEnds.get(r)) {
+                        filler.fill(cells.signs, cells.from(cell + c), cells.to(cell + c), widths[c], widths[c]);
+                    }
+                    firsts[c + 1] = filler.starts.size;
+                    many = Math.max(many, firsts[c + 1] - firsts[c]);
                 }
-                galley.finish(origin, Galley.STAYS, true);
+                for (int i = 0; i < many; i++) {
+                    printParts(i);
+                    galley.finish(origin, r == 0 || i + 1 < many ? Galley.STAYS : 0, true);
+                }
+                if (r == 0) {
+                    printDashes();
+                    galley.finish(origin, Galley.STAYS, true);
+                }
+            }
+        }
+
+        private void printDashes() {
+            Row out = galley.made.signs;
+            for (int c = 0; c < columns; c++) {
+                if (c > 0) {
+                    out.put('-');
+                    out.put('+');
+                    out.put('-');
+                }
+                out.putMany('-', widths[c]);
             }
         }
 
@@ -2262,7 +2272,7 @@ public final class TypeRoom {
         }
 
         int lineCount() {
-            return shown.count();
+            return shown.rows();
         }
 
         int tally(int what) {
@@ -2270,7 +2280,7 @@ public final class TypeRoom {
         }
 
         int linesOf(int page) {
-            int next = page + 1 < pageStarts.size ? pageStarts.get(page + 1) : shown.count();
+            int next = page + 1 < pageStarts.size ? pageStarts.get(page + 1) : shown.rows();
             return next - pageStarts.get(page);
         }
 
@@ -2282,20 +2292,20 @@ public final class TypeRoom {
             present = true;
             tallies[PAGES] = pageStarts.size;
             tallies[NOTES] = marks.notes;
-            tallies[HEADINGS] = marks.titles.count();
+            tallies[HEADINGS] = marks.titles.rows();
             tallies[KEYS] = keys;
-            tallies[LABELS] = marks.labels.count();
+            tallies[LABELS] = marks.labels.rows();
             tallies[ROUNDS] = rounds;
             tallies[SETTLED] = settled ? 1 : 0;
             tallies[UNKNOWN] = marks.unknown;
-            tallies[LINES] = shown.count();
+            tallies[LINES] = shown.rows();
         }
 
         void showHead(Marks marks, int page, int from, int wide) {
             label.clear();
             marks.putLabel(label, page);
             int title = NONE;
-            for (int i = 0; i < marks.titles.count(); i++) {
+            for (int i = 0; i < marks.titles.rows(); i++) {
                 if (marks.levels.get(i) == 1 && marks.headLines.get(i) <= from) {
                     title = i;
                 }
@@ -2358,7 +2368,7 @@ public final class TypeRoom {
 
         private void closeLine(int origin) {
             int hash = 0;
-            for (int i = shown.from(shown.count()); i < shown.signs.size; i++) {
+            for (int i = shown.from(shown.rows()); i < shown.signs.size; i++) {
                 hash = hash * 31 + (shown.signs.get(i) & SIGN_BITS);
             }
             hashes.put(hash);
@@ -2373,19 +2383,19 @@ public final class TypeRoom {
         }
 
         int firstChange(Proof other) {
-            int least = Math.min(shown.count(), other.shown.count());
+            int least = Math.min(shown.rows(), other.shown.rows());
             for (int i = 0; i < least; i++) {
                 if (!sameLine(i, other, i)) {
                     return i;
                 }
             }
-            return shown.count() == other.shown.count() ? NONE : least;
+            return shown.rows() == other.shown.rows() ? NONE : least;
         }
 
         /** How many lines the longest row has that both have. */
         int common(Proof other) {
-            int size = shown.count();
-            int otherSize = other.shown.count();
+            int size = shown.rows();
+            int otherSize = other.shown.rows();
             int ahead = 0;
             while (ahead < size && ahead < otherSize && sameLine(ahead, other, ahead)) {
                 ahead++;
@@ -2447,7 +2457,7 @@ public final class TypeRoom {
         private int rounds;
         private boolean settled;
 
-        Setter(Row manuscript, Purse purse, Rules rules, Texts texts, Filler filler) {
+        Setter(Row manuscript, Purse purse, Rules rules, Texts texts, Filler filler, Marks marks) {
             this.manuscript = manuscript;
             this.purse = purse;
             this.rules = rules;
@@ -2455,7 +2465,7 @@ public final class TypeRoom {
             this.filler = filler;
             galley = new Galley(purse);
             tables = new Tables(purse, filler, galley);
-            now = new Marks();
+            now = marks;
             before = new Marks();
             starts = new Row();
             stops = new Row();
@@ -2482,6 +2492,7 @@ public final class TypeRoom {
                 }
             }
             now.clear();
+            rules.clear();
             rounds = 0;
             settled = false;
         }
@@ -2539,40 +2550,60 @@ public final class TypeRoom {
 
         /** All blocks are gone through, and the pages are made. */
         void round(int number) {
-            openRound(number);
+            line = 0;
             purse.spend(kinds.size);
+            openRound(number);
             boolean joined = false;
             int next = 0;
             for (int at = 0; at < kinds.size; at = next) {
                 int kind = kinds.get(at);
-                next = blockEnd(at);
-                if (kind == EMPTY) {
-                    joined = false;
-                    continue;
+                next = Math.max(at + 1, blockEnd(at));
+                if (kind != EMPTY) {
+                    line = at + 1;
+                    purse.spend(BLOCK_WORK);
                 }
-                line = at + 1;
-                purse.spend(BLOCK_WORK);
                 switch (kind) {
                     case DIRECTIVE:
-                        directive(at);
+                        int told = rules.follow(manuscript, starts.get(at), stops.get(at));
+                        if (told == Rules.TOC) {
+                            contents();
+                        } else if (told == Rules.INDEX) {
+                            index();
+                        } else if (told == Rules.PAGE) {
+                            galley.flow.put(Galley.CUT);
+                        }
                         break;
                     case HEADING:
                         heading(at);
                         break;
                     case TABLE:
-                        table(at, next);
+                        workTable(at, next);
+                        if (tables.columns > 0) {
+                            galley.beginBlock(rules.told(Rules.GAP));
+                            tables.print(line);
+                        }
                         break;
                     case RAW:
                         raw(at, next);
                         break;
                     case ITEM:
-                        item(at, next, joined);
+                        beginItem(at, next, joined);
+                        fillText(joined ? 0 : rules.told(Rules.GAP), true);
+                        printNotes();
+                        break;
+                    case TEXT:
+                        beginParagraph(at, next);
+                        fillText(rules.told(Rules.GAP), false);
+                        printNotes();
                         break;
                     default:
-                        paragraph(at, next);
                 }
                 joined = kind == ITEM;
             }
+            closeRound();
+        }
+
+        private void closeRound() {
             galley.paginate(pageRoom());
             galley.turnToPages(now.labelAt);
             galley.turnToPages(now.headAt);
@@ -2584,7 +2615,6 @@ public final class TypeRoom {
 
         private void openRound(int number) {
             rounds = number;
-            line = 0;
             Marks former = now;
             now = before;
             before = former;
@@ -2623,23 +2653,8 @@ public final class TypeRoom {
             }
         }
 
-        private void directive(int at) {
-            switch (rules.follow(manuscript, starts.get(at), stops.get(at))) {
-                case Rules.TOC:
-                    contents();
-                    break;
-                case Rules.INDEX:
-                    index();
-                    break;
-                case Rules.PAGE:
-                    galley.flow.put(Galley.CUT);
-                    break;
-                default:
-            }
-        }
-
         private void heading(int at) {
-            if (now.titles.count() >= MOST_HEADINGS) {
+            if (now.titles.rows() >= MOST_HEADINGS) {
                 purse.fail(FAULT_MANY);
             }
             int level = Math.max(1, Math.min(LEVELS, levelOf(starts.get(at), stops.get(at))));
@@ -2653,11 +2668,10 @@ public final class TypeRoom {
                 now.latest.putNumber(numbers[k], 1);
             }
             texts.openText(Texts.BUT_NOTES);
-            texts.row.pour(now.latest, 0, now.latest.size);
-            texts.row.putWord(BLANK, 0, ALL_BITS);
+            texts.beginWith(now.latest);
             gather(at, at + 1, level + 1);
-            int label = now.labels.count();
-            int key = now.keys.count();
+            int label = now.labels.rows();
+            int key = now.keys.rows();
             texts.work(text, 0, text.size, 0);
             Row words = texts.row;
             now.titles.signs.pourMasked(words, 0, words.size, SIGN_BITS);
@@ -2677,14 +2691,13 @@ public final class TypeRoom {
             carry(first, label, key);
         }
 
-        private void paragraph(int at, int next) {
+        private void beginParagraph(int at, int next) {
             gather(at, next, 0);
             filler.openPlain();
             filler.prefix.putMany(BLANK, rules.told(Rules.INDENT));
-            fillText(rules.told(Rules.GAP), false);
         }
 
-        private void item(int at, int next, boolean joined) {
+        private void beginItem(int at, int next, boolean joined) {
             int from = starts.get(at);
             int depth = 0;
             while (depth < LEVELS - 1 && manuscript.get(from + 2 * depth) == BLANK) {
@@ -2707,17 +2720,15 @@ public final class TypeRoom {
             filler.prefix.put(BLANK);
             filler.hang = filler.prefix.size;
             gather(at, next, 2 * depth + 2);
-            fillText(joined ? 0 : rules.told(Rules.GAP), true);
         }
 
-        /** Works the text of a paragraph or an item, and makes its lines and those of its notes. */
+        /** Works the text of a paragraph or an item, and makes its lines. */
         private void fillText(int spaces, boolean item) {
             texts.openText(Texts.ALL_MARKS);
-            int label = now.labels.count();
-            int key = now.keys.count();
-            int note = now.notes;
+            int label = now.labels.rows();
+            int key = now.keys.rows();
             texts.work(text, 0, text.size, 0);
-            boolean marked = now.labels.count() > label || now.keys.count() > key;
+            boolean marked = now.labels.rows() > label || now.keys.rows() > key;
             if (marked && texts.firstSolid() == NONE) {
                 purse.fail(FAULT_MARK);
             }
@@ -2735,25 +2746,26 @@ public final class TypeRoom {
             int first = galley.flow.size;
             printLines(words, rules.told(Rules.KEEP), true);
             carry(first, label, key);
-            for (int k = 0; k < texts.notes.count(); k++) {
+            for (int k = 0; k < texts.notes.rows(); k++) {
                 galley.noteAt.put(first + lineOf(texts.carriers.get(k)));
-            }
-            for (int k = 0; k < texts.notes.count(); k++) {
-                note(note + 1 + k, k);
             }
         }
 
-        private void note(int number, int k) {
-            filler.openPlain();
-            filler.hyphen = rules.told(Rules.HYPH) == 1;
-            filler.prefix.putNumber(number, 1);
-            filler.prefix.put('.');
-            filler.prefix.put(BLANK);
-            filler.hang = filler.prefix.size;
-            filler.fill(texts.notes.signs, texts.notes.from(k), texts.notes.to(k), filler.roomOf(0), filler.roomOf(1));
-            galley.noteFrom.put(galley.made.count());
-            printLines(texts.notes.signs, 0, false);
-            galley.noteTo.put(galley.made.count());
+        /** Makes the lines of the block's notes. */
+        private void printNotes() {
+            Shelf notes = texts.notes;
+            for (int k = 0; k < notes.rows(); k++) {
+                filler.openPlain();
+                filler.hyphen = rules.told(Rules.HYPH) == 1;
+                filler.prefix.putNumber(now.notes - notes.rows() + 1 + k, 1);
+                filler.prefix.put('.');
+                filler.prefix.put(BLANK);
+                filler.hang = filler.prefix.size;
+                filler.fill(notes.signs, notes.from(k), notes.to(k), filler.roomOf(0), filler.roomOf(1));
+                galley.noteFrom.put(galley.made.rows());
+                printLines(notes.signs, 0, false);
+                galley.noteTo.put(galley.made.rows());
+            }
         }
 
         /** Makes the lines that were filled; a row without words has its prefix alone. */
@@ -2794,7 +2806,7 @@ public final class TypeRoom {
             }
         }
 
-        private void table(int at, int next) {
+        private void workTable(int at, int next) {
             tables.open();
             for (int k = at; k < next; k++) {
                 tables.part(manuscript, starts.get(k), stops.get(k));
@@ -2809,14 +2821,7 @@ public final class TypeRoom {
                 }
                 tables.closeRow();
             }
-            if (tables.columns == 0) {
-                return;
-            }
             tables.narrow(rules.told(Rules.WIDE));
-            galley.beginBlock(rules.told(Rules.GAP));
-            for (int r = 0; r < tables.rowEnds.size; r++) {
-                tables.printRow(r, line);
-            }
         }
 
         private void raw(int at, int next) {
@@ -2831,10 +2836,10 @@ public final class TypeRoom {
         private void contents() {
             int wide = rules.told(Rules.WIDE);
             Row out = galley.made.signs;
-            if (before.titles.count() > 0) {
+            if (before.titles.rows() > 0) {
                 galley.beginBlock(rules.told(Rules.GAP));
             }
-            for (int k = 0; k < before.titles.count(); k++) {
+            for (int k = 0; k < before.titles.rows(); k++) {
                 scratch.clear();
                 before.putLabel(scratch, before.headAt.get(k));
                 int start = out.size;
