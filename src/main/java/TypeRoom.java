@@ -130,7 +130,7 @@ public final class TypeRoom {
 
     public int find(int from) {
         int place = NONE;
-        if (tape.size > 0 && from >= 0) {
+        if (tape.size > 0 && from >= 0 && from <= manuscript.size) {
             for (int at = from; at + tape.size <= manuscript.size && place == NONE; at++) {
                 if (manuscript.stands(at, tape, 0, tape.size)) {
                     place = at;
