@@ -953,6 +953,7 @@ public final class TypeRoom {
         private final Shelf keys;
         private final Row keyAt;
         private final Row pages;
+        private final Row entry;
         private final Row latest;
         private int notes;
         private int unknown;
@@ -970,6 +971,7 @@ public final class TypeRoom {
             keys = new Shelf();
             keyAt = new Row();
             pages = new Row();
+            entry = new Row();
             latest = new Row();
         }
 
@@ -1033,7 +1035,7 @@ public final class TypeRoom {
             return size != otherSize ? size - otherSize : plain;
         }
 
-        /** A key with the labels of its pages, each once, rising. */
+        /** The words of a key's entry: the key with the labels of its pages, each once, rising. */
         void putEntry(int key, Row out) {
             pages.clear();
             for (int i = 0; i < keys.rows(); i++) {
@@ -1042,7 +1044,8 @@ public final class TypeRoom {
                     pages.put(page);
                 }
             }
-            out.pack(keys.signs, keys.from(key), keys.to(key), SIGN_BITS);
+            entry.clear();
+            entry.pour(keys.signs, keys.from(key), keys.to(key));
             int next = 0;
             for (int i = 0; i < pages.size; i = next) {
                 next = i + 1;
@@ -1051,14 +1054,16 @@ public final class TypeRoom {
                 }
                 // Two pages are told one by one, three and more as a stretch.
                 next = next - i >= 3 ? next : i + 1;
-                out.put(',');
-                out.put(BLANK);
-                out.putNumber(first + pages.get(i), system);
+                entry.put(',');
+                entry.put(BLANK);
+                entry.putNumber(first + pages.get(i), system);
                 if (next > i + 1) {
-                    out.put('-');
-                    out.putNumber(first + pages.get(next - 1), system);
+                    entry.put('-');
+                    entry.putNumber(first + pages.get(next - 1), system);
                 }
             }
+            // A key may have blanks anywhere that were hard ones; only the whole entry has its words.
+            out.pack(entry, 0, entry.size, SIGN_BITS);
         }
     }
 
@@ -2551,8 +2556,8 @@ public final class TypeRoom {
         /** All blocks are gone through, and the pages are made. */
         void round(int number) {
             line = 0;
-            purse.spend(kinds.size);
             openRound(number);
+            purse.spend(kinds.size);
             boolean joined = false;
             int next = 0;
             for (int at = 0; at < kinds.size; at = next) {

@@ -229,6 +229,21 @@ public final class BlocksTest {
         Desk.same("a dash parts", "kkkkkkkk, 1-/  3/", dashedIndex());
         Desk.same("a hard blank is a blank in keys", "x/a b, 1/=", Desk.setNew(PLAIN + "x\\index{a\\ b}\\index{a b}\n@index"));
         Desk.same("no keys", 0, new Desk().set("@index"));
+        keysWithHardBlanks();
+    }
+
+    private static void keysWithHardBlanks() {
+        Desk.same("at the end: ahead of the comma", "x/pear , 1/=", Desk.setNew(PLAIN + "x\\index{pear\\ }\n@index"));
+        Desk.same("several at the end", "x/pear , 1/=", Desk.setNew(PLAIN + "x\\index{pear\\ \\ \\ }\n@index"));
+        Desk.same("behind a plain one", "x/pear , 1/=", Desk.setNew(PLAIN + "x\\index{pear \\ }\n@index"));
+        Desk.same("at the beginning, two within", "x/a b, 1/=", Desk.setNew(PLAIN + "x\\index{\\ a\\ \\ b}\n@index"));
+        Desk.same("nothing else", "x/, 1/=", Desk.setNew(PLAIN + "x\\index{\\ }\n@index"));
+        Desk desk = new Desk();
+        Desk.same("another key than without", "x/a, 1/a , 1/a , 1/a b, 1/=",
+            desk.shown(PLAIN + "x\\index{a\\ \\ }\\index{a b}\\index{a\\ }\\index{a}\n@index"));
+        Desk.same("keys", 4, desk.room.count(6));
+        Desk.same("the comma is a word of its own", "x/kkkkkkkkkkkk/  , 1/=",
+            Desk.setNew("@set indent 0\n@set gap 0\n@set wide 12\nx\\index{kkkkkkkkkkkk\\ }\n@index"));
     }
 
     private static void origins() {

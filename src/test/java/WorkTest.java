@@ -9,6 +9,7 @@ public final class WorkTest {
         limitEver();
         madeLines();
         partOfDirective();
+        roundThatCannotBegin();
         Desk.close();
     }
 
@@ -131,5 +132,37 @@ public final class WorkTest {
         Desk.same("set", 8 + 16 * 3, desk.set("\\if{" + heavy + "}{}{}{}\n\n@pat" + Desk.times(" ab", 100)));
         Desk.same("patterns that were paid for", (60000 - spent) / 10, desk.room.count(17));
         Desk.same("work", spent + (60000 - spent) / 10 * 10, desk.room.count(13));
+    }
+
+    /** A fault at line 0 is behind no directive of its round, whichever round it is. */
+    private static void roundThatCannotBegin() {
+        Desk desk = new Desk();
+        String rules = "@def m 0 z\n@pat a1b\n@word abc-d\n@set left 1\n";
+        String heavy = "x\\label{k}\\rep{50}{" + Desk.times("x", 440) + "}\n";
+        Desk.same("one round is enough", 0, desk.set(rules + heavy.replace("\\label{k}", "") + Desk.times("\n", 3300)));
+        Desk.same("macros", 1, desk.room.count(16));
+        Desk.same("a second can't begin", 8, desk.set(rules + heavy + Desk.times("\n", 3300)));
+        Desk.same("the first round's work", true, desk.room.count(13) > 60000 - 3305);
+        noRules(desk);
+        Desk.same("told again", 0, desk.set(rules));
+        Desk.same("patterns", 1, desk.room.count(17));
+        Desk.same("exceptions", 1, desk.room.count(18));
+        for (int i = 0; i < 20 && desk.room.count(14) < 400000; i++) {
+            desk.tell("\\rep{50}{\\rep{50}{" + Desk.times("x", 24) + "}}");
+        }
+        Desk.same("nothing is left", 400000, desk.room.count(14));
+        Desk.same("nor the first", 8, desk.room.set());
+        noRules(desk);
+    }
+
+    private static void noRules(Desk desk) {
+        Desk.same("no macros", 0, desk.room.count(16));
+        Desk.same("no patterns", 0, desk.room.count(17));
+        Desk.same("no exceptions", 0, desk.room.count(18));
+        desk.feed("abab");
+        Desk.same("no points", 0, desk.room.hyphens());
+        desk.feed("abcd");
+        Desk.same("nor by an exception", 0, desk.room.hyphens());
+        Desk.same("no call", true, desk.tell("\\m") < 0);
     }
 }
