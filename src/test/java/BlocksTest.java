@@ -242,8 +242,8 @@ public final class BlocksTest {
         Desk.same("another key than without", "x/a, 1/a , 1/a , 1/a b, 1/=",
             desk.shown(PLAIN + "x\\index{a\\ \\ }\\index{a b}\\index{a\\ }\\index{a}\n@index"));
         Desk.same("keys", 4, desk.room.count(6));
-        Desk.same("the comma is a word of its own", "x/kkkkkkkkkkkk/  , 1/=",
-            Desk.setNew("@set indent 0\n@set gap 0\n@set wide 12\nx\\index{kkkkkkkkkkkk\\ }\n@index"));
+        Desk.same("the comma is a word of its own", "x/kkkkkkkkkkk/  , 1/=",
+            Desk.setNew("@set indent 0\n@set gap 0\n@set wide 12\nx\\index{kkkkkkkkkkk\\ }\n@index"));
     }
 
     private static void origins() {
