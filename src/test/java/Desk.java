@@ -1,14 +1,37 @@
+import java.io.IOException;
+import java.nio.file.Files;
+import java.nio.file.Path;
+
 /** A room with helpers that feed texts and read answers as strings; shared by the tests. */
 final class Desk {
     private static int checks = 0;
     private static int wrong = 0;
+    private static String sentence = "";
+    private static String document = "";
     final TypeRoom room = new TypeRoom();
 
     static void same(String what, Object due, Object got) {
         checks++;
         if (!due.equals(got)) {
             wrong++;
-            System.out.println(what + "\n  due: " + due + "\n  got: " + got);
+            System.out.println((sentence.isEmpty() ? "" : "[" + sentence + "] ") + what + "\n  due: " + due + "\n  got: " + got);
+        }
+    }
+
+    /** The document's words that the answers behind this rest on: they must stand in it. */
+    static void says(String words) {
+        sentence = words;
+        if (document.isEmpty()) {
+            document = readDocument();
+        }
+        same("is said in the document", true, document.contains(words));
+    }
+
+    private static String readDocument() {
+        try {
+            return Files.readString(Path.of("../shared/DOC.md")).replaceAll("\\s+", " ");
+        } catch (IOException missing) {
+            return "no document: " + missing;
         }
     }
 
@@ -53,6 +76,17 @@ final class Desk {
     String told(String text) {
         int answer = tell(text);
         return answer < 0 ? "!" + answer : answer();
+    }
+
+    /** Spends work until just so much is spent ever: adding nothing costs what the manuscript has. */
+    void spend(int ever) {
+        write(times("x", 4000));
+        for (int i = 0; i < 100 && ever - room.count(14) >= 4000; i++) {
+            room.add();
+        }
+        write(times("x", ever - room.count(14)));
+        room.add();
+        same("work that was to be spent", ever, room.count(14));
     }
 
     String answer() {
