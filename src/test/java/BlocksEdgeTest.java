@@ -220,6 +220,7 @@ public final class BlocksEdgeTest {
         Desk.same("kept together", "1/2/3/4/=aaaaaaaaaaa[/1]//----------/1. n/=",
             desk.shown(PARTED + "@set keep 2\naaaaaaaaaaa\\note{n}"));
         Desk.same("the ] is in the second line", "1/2/3/4/aaaaaaaaaaa[/=1]///----------/1. n/=", desk.shown(PARTED + "aaaaaaaaaaa\\note{n}"));
+        Desk.same("the ] alone is in the second line", "1/2/3/4/aaaaaaaaaa[1/=]///----------/1. n/=", desk.shown(PARTED + "aaaaaaaaaa\\note{n}"));
         Desk.same("in the first line there is no room", "1/2/3/4/=aaaaaaaaa[1]/bbb//----------/1. n/=", desk.shown(PARTED + "aaaaaaaaa\\note{n} bbb"));
         Desk.same("one of each line", "1/2/a[1]/----------/1. n/=bbbbbbbbb[2]///----------/2. m/=",
             desk.shown(PARTED.replace(">3\n>4\n", "") + "a\\note{n} bbbbbbbbb\\note{m}"));
@@ -249,6 +250,7 @@ public final class BlocksEdgeTest {
         carried("blanks carry none", "0 0 1", "xxxxxxxxxx  \\label{a}  \\label{b} y\\label{c}yyyyyyyyy");
         carried("hard ones, too", "0 0 0", "xxxxxxxxxx\\ \\label{a}\\ \\label{b} {\\ } \\label{c}yyyyyyyyyy");
         carried("else by the first that comes", "0 0 1", "\\label{a}{\\label{b}} xxxxxxxxxx y\\label{c}yyyyyyyyyy");
+        carried("a hard blank alone in the first line", "1 1 1", "\\ \\label{a} xxxxxxxxxxxx\\label{b} y\\label{c}");
         carried("a word that is cut", "0 0 1", "xxxxxxxxxxx\\label{a}x\\label{b}x\\label{c}x");
         carried("a word that is parted", "0 1 1", "@pat x1y\nxxxxxxxxxx\\label{a}y\\label{b}yyyyyy\\label{c}");
         carried("in an item", "0 1 1", "- xxxxxxxx\\label{a} yyyyyyyy\\label{b} z\\label{c}");
@@ -318,6 +320,10 @@ public final class BlocksEdgeTest {
             foot(PLAIN + "x\\note{aaaaaaaaaaaa}\n@set wide 20\ny\\note{aaaaaaaaaaaa}\n@set wide 30"));
         Desk.same("hyph of its block", "1. aaaa bbb-/   ccc/2. aaaa/   bbbccc/=",
             foot(PLAIN + "@pat b1c\nx\\note{aaaa bbbccc}\n@set hyph 0\ny\\note{aaaa bbbccc}\n@set hyph 1"));
+        Desk.same("each note its own letters: left", "1. b/2. cdddddddd/   dd/=", foot(PLAIN + "@pat c1d\nx\\note{b}\\note{cdddddddddd}"));
+        Desk.same("each note its own letters: right", "1. aaa/   bbccdd/2. x/=",
+            foot(PLAIN + "@set right 3\n@pat c1d\nx\\note{aaa bbccdd}\\note{x}"));
+        Desk.same("each note its own words", "1. aaaaaaaaa/2. bbbbbbbbb/=", foot(PLAIN + "x\\note{aaaaaaaaa}\\note{bbbbbbbbb}"));
         Desk.same("patterns of its block", "1. aaaa/   bbbccc/2. aaaa bbb-/   ccc/=",
             foot(PLAIN + "x\\note{aaaa bbbccc}\n@pat b1c\ny\\note{aaaa bbbccc}"));
     }

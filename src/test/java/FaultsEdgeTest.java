@@ -82,6 +82,13 @@ public final class FaultsEdgeTest {
         Desk.same("a } in a body in a group", "!-3", desk.told("{\\c}"));
         Desk.same("a \\ at a body's end", "!-3", desk.told("\\e n"));
         Desk.same("an argument in a body", "!-3", desk.told("\\a x}"));
+        Desk.same("a group in a body alone", "!-3", desk.told("\\o"));
+        Desk.same("a body ends where it ends: a name", "  x/=", desk.shown("@def b 0 x\n@def a 0 \\b\n@def c 0 yz\n\\a"));
+        Desk.same("an argument", "fault 4@3", desk.shown("@def a 0 \\up\n@def b 0 {x}\n\\a"));
+        Desk.same("a brace", "fault 2@3", desk.shown("@def a 0 \\up{x\n@def b 0 }\n\\a"));
+        Desk.same("a #", "fault 11@3", desk.shown("@def a 1 #\n@def b 0 1\n\\a{x}"));
+        Desk.same("a \\", "fault 2@3", desk.shown("@def a 0 \\\n@def b 0 x\n\\a"));
+        desk.set("@def w 1 #1");
         Desk.same("signs of a row aren't worked again", "{}", desk.told("\\w{\\{\\}}"));
     }
 
@@ -125,6 +132,10 @@ public final class FaultsEdgeTest {
         is("!-6", "\\num{1}{6}");
         is("!-6", "\\ref{-}");
         is("!-6", "\\show{abcdefghijklm}{1}");
+        is("!-6", "\\sub{0}{1}{\\ref{}}");
+        is("!-6", "\\if{a}{\\page{}}{}{}");
+        is("!-6", "\\sub{0}{1}{\\show{}{1}}");
+        is("!-6", "\\sub{0}{1}{\\rep{}{a}}");
         fails("5@1", "x\\index{}");
         fails("5@1", "x\\index{  }");
         fails("5@1", "x\\label{ a}");

@@ -46,6 +46,9 @@ public final class LinesEdgeTest {
         is("its first and second", "aaaaaaaaa --/ccc/=", "aaaaaaaaa --ccc");
         is("its last sign", "aaaaaaaaaa/c-/=", "aaaaaaaaaa c-");
         is("its last but one", "aaaaaaaaa c-/-/=", "aaaaaaaaa c--");
+        is("the second of the row", "b-/cccccccccccc/c/=", "b-ccccccccccccc");
+        Desk.same("by way 1, too", "b-/cccccccccccc/=", best("b-cccccccccccc"));
+        Desk.same("the first of the row by way 1", "-bbbbbbbbbbb/b/=", best("-bbbbbbbbbbbb"));
         is("the first of the row", "-bbbbbbbbbbb/bbc/=", "-bbbbbbbbbbbbbc");
         is("the last of the row", "bbbbbbbbbbbb/-/=", "bbbbbbbbbbbb-");
         is("behind a hard blank", "aaaaaa b -/ccc/=", "aaaaaa b\\ -ccc");
@@ -248,6 +251,9 @@ public final class LinesEdgeTest {
     }
 
     private static void wayOneNone() {
+        Desk.same("each text its own points", "bbb-/ccccccccccc/bbbbb-/cccccccc/=", best("@pat b1c\nbbbccccccccccc\n\nbbbbbcccccccc"));
+        Desk.same("each text its own letters", "b99/cccccccccccc/99b/cccccccccccc/=",
+            best("b99 cccccccccccc\n\n99b cccccccccccc"));
         Desk.says("If there is none: way 0.");
         Desk.same("a word that is too long", "a bb/" + LINE + "/1 c/=", best("a bb " + LINE + "1 c"));
         Desk.same("too long without its point", "aa/bbbbbbbbbbb-/cc d/=", best("@pat b1c\naa bbbbbbbbbbbcc d"));

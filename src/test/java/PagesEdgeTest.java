@@ -100,6 +100,8 @@ public final class PagesEdgeTest {
         is("an item, keep 2", "1/2/3/4/=- aaaaaaaaa/  bbbbbbbbb/=", LOW + raw(1, 4) + "- " + words("ab"));
         is("an item, keep 1", "1/2/3/4/- aaaaaaaaa/=  bbbbbbbbb/=", LOW + "@set keep 1\n" + raw(1, 4) + "- " + words("ab"));
         is("behind items it may", "- a/- b/- c/- d/- e/=- f/=", LOW + "- a\n- b\n- c\n- d\n- e\n- f");
+        is("behind an item without words it may", rows(1, 4) + "-/=5/=", LOW + "@set keep 3\n" + raw(1, 4) + "- \n" + raw(5, 5));
+        is("behind a text of one line it may", rows(1, 4) + lines("a") + "=5/=", LOW + "@set keep 3\n" + raw(1, 4) + words("a") + raw(5, 5));
         is("behind raw lines it may", rows(1, 5) + "=6/=", LOW + "@set keep 3\n" + raw(1, 6));
         is("behind an index's lines", "x/a, 1/b, 1/c, 1/d, 1/=e, 1/=", LOW + "@set keep 3\nx\\index{a}\\index{b}\\index{c}\\index{d}\\index{e}\n@index");
     }
@@ -165,6 +167,7 @@ public final class PagesEdgeTest {
         Desk.says("if there is none, behind the latest up to which all fits;");
         is("a heading and a text", "1 h/" + lines("abcd") + "=" + lines("e") + "=", LOW + "@set keep 3\n= h\n" + words("abcde"));
         is("headings alone", "1 a//2 b//3 c/=4 d/=", LOW + "= a\n= b\n= c\n= d");
+        is("SPACES behind it don't come", "1 a//2 b//3 c/=4 d/=", LOW + "@set high 6\n= a\n= b\n= c\n= d");
         is("a long heading", "1 aaaaaaaaa/  " + lines("bcde").replace("/", "/  ").trim() + "=  fffffffff/=",
             LOW + "= " + words("abcdef"));
         is("a text with keep 3", lines("abcde") + "=", LOW + "@set keep 3\n" + words("abcde"));

@@ -213,6 +213,19 @@ public final class PromisesEdgeTest {
         Desk.same("the ends of the alphabets", "1:AZ 1:ZA", replaced("AA", "AA\naz", 4) + " " + replaced("ZZ", "ZZ\nza", 4));
         Desk.same("signs beside the alphabets", "1:`{@[", replaced("AZ", "AZ\n`{@[", 4));
         Desk.same("all of them", "2:new older NEW", replaced("old older OLD", "Old\nnew", 7));
+        Desk.same("a sign behind what is found isn't of it", "1:NEWd", replaced("OLd", "OL\nnew", 4));
+        Desk.same("nor is a great letter", "1:NewL", replaced("OL", "O\nnew", 4));
+        Desk.same("nor is one ahead", "1:oNew", replaced("oO", "O\nnew", 4));
+        Desk.says("ways is a sum of 1:");
+        String[] due = {"2:new OLD Old xnew", "1:new OLD Old xold", "4:new new new xnew", "3:new new new xold", "2:new OLD Old xnew",
+            "1:new OLD Old xold", "4:new NEW New xnew", "3:new NEW New xold"};
+        for (int ways = 0; ways <= 7; ways++) {
+            Desk.same("ways " + ways, due[ways], replaced("old OLD Old xold", "old\nnew", ways));
+        }
+        String[] great = {"1:new", "1:new", "1:new", "1:new", "1:NEW", "1:NEW", "1:NEW", "1:NEW"};
+        for (int ways = 0; ways <= 7; ways++) {
+            Desk.same("of great letters, ways " + ways, great[ways], replaced("OLD", "OLD\nnew", ways));
+        }
     }
 
     private static void replaceWrong() {
@@ -651,6 +664,13 @@ public final class PromisesEdgeTest {
         Desk.same("styles don't", "0 0 -1", changes("a b", "*a* _b"));
         Desk.same("blanks at an end do", "1 1 0", changes(">a", ">a "));
         Desk.same("origins don't", "0 0 -1", changes(">a", "\n\n>a"));
+        Desk.same("the same lines, one less", "0 1 1", changes(raw("aa"), raw("a")));
+        Desk.same("the same lines, one more", "1 0 1", changes(raw("a"), raw("aa")));
+        Desk.same("the same lines, two more", "2 0 3", changes(raw("aaa"), raw("aaaaa")));
+        Desk.same("both ends alike", "0 1 1", changes(raw("aba"), raw("aa")));
+        Desk.same("by all signs", "2 2 0", changes(">Aa\n>BBAa", ">BB\n>AaBB"));
+        Desk.same("as long, other signs", "1 1 0", changes(">ab", ">ba"));
+        Desk.same("longer, the same beginning", "1 1 0", changes(">ab", ">abc"));
         Desk.same("many", "50 50 0", changes(raw(Desk.times("ab", 50)), raw(Desk.times("ca", 50))));
     }
 

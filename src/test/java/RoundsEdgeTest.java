@@ -15,6 +15,7 @@ public final class RoundsEdgeTest {
         indexMarksSettle();
         nothingElseMatters();
         theFifth();
+        ofTheRoundBefore();
         nothingStays();
         Desk.close();
     }
@@ -158,6 +159,25 @@ public final class RoundsEdgeTest {
         Desk.same("what it would give there", "f", desk.told("\\if{\\page{e}}{??}{}{f}"));
         desk.set(PLAIN + "@set high 5\n\\if{\\page{a}}{1}{\\rep{5}{" + Desk.times("x", 39) + " }}{y}\n\nz\\label{a}");
         Desk.same("to and fro", "5 0 y/z/=", desk.room.count(9) + " " + desk.room.count(10) + " " + desk.proof());
+    }
+
+    /** A text that goes to and fro: its fifth round shows what the fourth had, where all was a page further on. */
+    private static void ofTheRoundBefore() {
+        Desk desk = new Desk();
+        desk.set(PLAIN + "@set high 5\n\\if{\\page{a}}{1}{\\rep{5}{" + Desk.times("x", 39) + " }}{y} \\page{a}\n\nz\\label{a}\\index{i}\n= h\n"
+            + "@page\n@toc\n@index");
+        Desk.same("it doesn't settle", "5 0", desk.room.count(9) + " " + desk.room.count(10));
+        Desk.says("ref K gives the REF of K's label of the round before");
+        Desk.same("a page", "y 2/z//1 h/", desk.page(0));
+        Desk.says("@toc: each HEADING of the round before");
+        Desk.same("contents", "1 h " + Desk.times(".", 34) + " 2", desk.line(1, 0));
+        Desk.says("of the round before once, in order");
+        Desk.same("the index", "i, 2", desk.line(1, 1));
+        Desk.says("the page (from 0 on) of the PROOF that has it");
+        desk.feed("a");
+        Desk.same("labelled", 0, desk.room.labelled());
+        Desk.says("what ref and page would give in a round behind that of the PROOF");
+        Desk.same("told", "1", desk.told("\\page{a}"));
     }
 
     /** What a set answers and shows doesn't depend on what the room did before. */

@@ -81,6 +81,7 @@ public final class TablesEdgeTest {
         Desk.says("there are as many columns as the most cells of a row; its LENGTH: its words with one blank between.");
         is("the first row has most", "a | b/--+--/c |/=", "|a|b\n|c");
         is("the last row has most", "a |   |/--+---+--/b | c | d/=", "|a\n|b|c|d");
+        is("each table its own", "a | b | c/--+---+--/d/-/=", "|a|b|c\n\n|d");
         is("one between", "a |/--+--/b | c/d |/=", "|a\n|b|c\n|d");
         is("words with one blank between", "a b/---/=", "|  a   b  ");
         is("a hard blank is of a word", "a  b/----/=", "|a\\ \\ b");
@@ -113,6 +114,8 @@ public final class TablesEdgeTest {
         Desk.says("Each cell is filled by way 0 into its column's width (its ROOM, also below 4; no hyphen points)");
         is("below 4", "a  | cc | dd/bb | c  |/---+----+---/=", "|a bb|ccc|dd");
         is("no hyphen points", "bbbbbbbbbbbb/ccc/------------/=", "@pat b1b b1c\n|bbbbbbbbbbbbccc");
+        is("nor behind a text that has them", "x/bbbbbbbbbbbb/ccc/------------/=", "@pat b1b b1c\nx\n\n|bbbbbbbbbbbbccc");
+        is("nor blanks ahead behind an item", "- x/a/-/=", "- x\n\n|a");
         is("dashes", "aa-  | bbbbb/aaa  | b/-----+------/=", "|aa-aaa|bbbbbb");
         is("not justified", "a b/cccccccccccc/------------/=", "@set justify 3\n|a b cccccccccccc");
         is("not by indent", "a/-/=", "@set indent 8\n|a");
@@ -142,6 +145,7 @@ public final class TablesEdgeTest {
         is("behind a part that is right", "  a/----/bbbb/=", "|>\n|a\\ \n|bbbb");
         is("but not those ahead", " a/--/=", "|\\ a");
         is("nor those between", "a  | b/---+--/=", "|a\\ |b");
+        is("not those of a line ahead", "a  //-/b/=", ">a  \n|\n|b");
         is("nothing but a hard one", "/-/=", "|\\ ");
         Desk desk = new Desk();
         desk.set(PLAIN + "|*a|_b_\n|*cc*|");
