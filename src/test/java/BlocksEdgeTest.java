@@ -250,6 +250,7 @@ public final class BlocksEdgeTest {
         carried("blanks carry none", "0 0 1", "xxxxxxxxxx  \\label{a}  \\label{b} y\\label{c}yyyyyyyyy");
         carried("hard ones, too", "0 0 0", "xxxxxxxxxx\\ \\label{a}\\ \\label{b} {\\ } \\label{c}yyyyyyyyyy");
         carried("else by the first that comes", "0 0 1", "\\label{a}{\\label{b}} xxxxxxxxxx y\\label{c}yyyyyyyyyy");
+        carried("a first sign alone in its line", "0 1 1", "\\label{a}x yyyyyyyyyyyy\\label{b} z\\label{c}");
         carried("a hard blank alone in the first line", "1 1 1", "\\ \\label{a} xxxxxxxxxxxx\\label{b} y\\label{c}");
         carried("a word that is cut", "0 0 1", "xxxxxxxxxxx\\label{a}x\\label{b}x\\label{c}x");
         carried("a word that is parted", "0 1 1", "@pat x1y\nxxxxxxxxxx\\label{a}y\\label{b}yyyyyy\\label{c}");
@@ -271,6 +272,10 @@ public final class BlocksEdgeTest {
         Desk.same("by the last sign", "a, 1/b, 2/", desk.page(2));
         desk.set(PARTED + "\\index{a}xxxxxxxxxx\\ \\index{b} yyyyyyyyyy\\index{c}" + index);
         Desk.same("else by the first that comes; hard blanks carry none", "a, 1/b, 1/c, 2/", desk.page(2));
+        desk.set(PARTED + "\\ \\index{a} xxxxxxxxxxxx\\index{b}" + index);
+        Desk.same("a hard blank alone in the first line", "a, 2/b, 2/", desk.page(2));
+        desk.set(PARTED + "\\index{a}x yyyyyyyyyyyy\\index{b}" + index);
+        Desk.same("a first sign alone in its line", "a, 1/b, 2/", desk.page(2));
         desk.set(PARTED + ">5\n\\index{a}xxxxxxxxxx\\index{b}" + index);
         Desk.same("on page 1", "a, 2/b, 2/", desk.page(2));
         Desk.says("index T: its words (5: none).");

@@ -73,6 +73,11 @@ public final class DirectivesEdgeTest {
         bad("@def 0");
         bad("@def a1 0");
         bad("@def a- 0");
+        bad("@def a@ 0");
+        bad("@def a[ 0");
+        bad("@def a` 0");
+        bad("@def a{ 0");
+        good("@def azAZ 0");
         bad("@def \\a 0");
         for (String call : CALLS) {
             bad("@def " + call + " 0");
@@ -95,6 +100,8 @@ public final class DirectivesEdgeTest {
         bad("@def a ");
         bad("@def a x");
         bad("@def a -1");
+        bad("@def a /");
+        bad("@def a :");
         bad("@def a 10");
         bad("@def a 1x");
         bad("@def a 01 x");
@@ -109,6 +116,7 @@ public final class DirectivesEdgeTest {
         Desk.same("the latest, in what was told ahead, too", "[x]", desk.told("\\a{x}"));
         Desk.same("three", 3, desk.room.count(16));
         Desk.same("between the two the former", "  one//  two/=", desk.shown("@def a 0 one\n\\a\n@def a 0 two\n\\a"));
+        Desk.same("it shows nothing", "1 a/=", desk.shown("@def a 0\n= a\n@def b 0 x"));
         Desk.same("fewer arguments", "  <>x/=", desk.shown("@def a 1 #1\n@def a 0 <>\n\\a{x}"));
     }
 
@@ -123,6 +131,9 @@ public final class DirectivesEdgeTest {
         bad("@set wide ");
         bad("@set wide x");
         bad("@set wide 4x");
+        bad("@set wide 4/");
+        bad("@set wide 4:");
+        bad("@set wide /40");
         bad("@set wide -40");
         bad("@set wide +40");
         bad("@set wide 40 40");
@@ -161,6 +172,10 @@ public final class DirectivesEdgeTest {
         bad("@pat aZ");
         bad("@pat a-b");
         bad("@pat a,b");
+        bad("@pat a`");
+        bad("@pat a{");
+        bad("@pat a/");
+        bad("@pat a:");
         bad("@pat a a11");
         bad("@pat a11 a");
         Desk.says("(These words, one at least, with a blank between; all of them are looked at ahead of 9.)");
@@ -189,6 +204,9 @@ public final class DirectivesEdgeTest {
         bad("@word Ab");
         bad("@word a1");
         bad("@word a.b");
+        bad("@word a`");
+        bad("@word a{");
+        bad("@word a,");
         bad("@word ab a");
         bad("@word a ab");
         bad("@word");

@@ -229,6 +229,8 @@ public final class FaultsEdgeTest {
         is("!-12", "#a");
         is("!-12", "#1");
         is("!-12", "#0");
+        is("!-12", "#/");
+        is("!-12", "#:");
         is("!-12", "{#1}");
         is("!-12", "\\up{#1}");
         is("#1", "\\#1");
@@ -239,6 +241,9 @@ public final class FaultsEdgeTest {
         Desk.same("0", "!-12", desk.told("\\c{x}{y}"));
         Desk.same("no digit at the end", "!-12", desk.told("\\d{x}{y}1"));
         Desk.same("no digit", "!-12", desk.told("\\e{x}{y}"));
+        Desk.same("signs beside the digits", "fault 11@2 fault 11@2", desk.shown("@def p 9 #/\n" + nine("p")) + " "
+            + desk.shown("@def p 9 #:\n" + nine("p")));
+        desk.set("@def f 0 #1\n@def g 2 {#}1\n@def h 9 #9\n@def i 1 #11\n@def a 2 #1#2");
         Desk.same("a macro of none", "!-12", desk.told("\\f"));
         Desk.same("at a group's end", "!-12", desk.told("\\g{x}{y}"));
         Desk.same("9", "9", desk.told("\\h{1}{2}{3}{4}{5}{6}{7}{8}{9}"));
@@ -247,6 +252,10 @@ public final class FaultsEdgeTest {
         Desk.same("behind a body", "!-12", desk.told("\\a{x}{y}#1"));
         Desk.same("a body's number is its own", "fault 11@3", desk.shown("@def p 0 #1\n@def q 1 \\p\n\\q{x}"));
         Desk.same("it is back behind a body within", "  yx/=", desk.shown("@def p 0 y\n@def q 1 \\p#1\n\\q{x}"));
+    }
+
+    private static String nine(String name) {
+        return "\\" + name + Desk.times("{x}", 9);
     }
 
     private static void orderOfACall() {

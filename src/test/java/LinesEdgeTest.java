@@ -47,7 +47,7 @@ public final class LinesEdgeTest {
         is("its last sign", "aaaaaaaaaa/c-/=", "aaaaaaaaaa c-");
         is("its last but one", "aaaaaaaaa c-/-/=", "aaaaaaaaa c--");
         is("the second of the row", "b-/cccccccccccc/c/=", "b-ccccccccccccc");
-        Desk.same("by way 1, too", "b-/cccccccccccc/=", best("b-cccccccccccc"));
+        Desk.same("by way 1, too", "b-/cccccccccc d/eeeeeeeeeeee/=", best("b-cccccccccc d eeeeeeeeeeee"));
         Desk.same("the first of the row by way 1", "-bbbbbbbbbbb/b/=", best("-bbbbbbbbbbbb"));
         is("the first of the row", "-bbbbbbbbbbb/bbc/=", "-bbbbbbbbbbbbbc");
         is("the last of the row", "bbbbbbbbbbbb/-/=", "bbbbbbbbbbbb-");
@@ -66,6 +66,8 @@ public final class LinesEdgeTest {
         is("hyph 0", "aaaaaa/bbbccc/=", "@set hyph 0\n@pat b1c\naaaaaa bbbccc");
         is("among other signs", "aaaa (\"bbb-/ccc\")/=", "@pat b1c\naaaa (\"bbbccc\")");
         is("each row of letters its own", "aaaaaa b9bb-/cc/=", "@pat b1c\naaaaaa b9bbcc");
+        is("none ahead of its first letter", "bbbbbb/9999aaa/=", "@set left 1\n@pat 1a\nbbbbbb 9999aaa");
+        is("none behind its last letter", "bbbbbb/aaa9999/=", "@set right 1\n@pat a1\n@set left 3\nbbbbbb aaa9999");
         is("none over a sign", "aaaaaaaa/bb9cc/=", "@pat b1c\naaaaaaaa bb9cc");
         is("none over a hard blank", "aaaaaaaa/bb cc/=", "@pat b1c\naaaaaaaa bb\\ cc");
         is("beside a dash", "aaaaaa-bbb-/ccc/=", "@pat b1c\naaaaaa-bbbccc");
@@ -86,6 +88,7 @@ public final class LinesEdgeTest {
             "@pat a1a\n" + Desk.times("a", 40));
         is("41 in a line", Desk.times(Desk.times("a", 12) + "/", 3) + "aaaaa/=", "@pat a1a\n" + Desk.times("a", 41));
         is("41 behind a word", "a/" + Desk.times(Desk.times("a", 12) + "/", 3) + "aaaaa/=", "@pat a1a\na " + Desk.times("a", 41));
+        Desk.same("41 by way 1", "bb/" + Desk.times(Desk.times("a", 12) + "/", 3) + "aaaaa/=", best("@pat a1a\nbb " + Desk.times("a", 41)));
         is("two rows of 40 and 41", Desk.times("a", 11) + "-/" + Desk.times("a", 11) + "-/" + Desk.times("a", 11) + "-/aaaaa-/aa9aaaaaaaaa/"
             + Desk.times(Desk.times("a", 12) + "/", 2) + "aaaaaaaa/=", "@pat a1a\n" + Desk.times("a", 40) + "9" + Desk.times("a", 41));
         Desk.same("taken small", "AA-Bb aa-BB", answer("@pat a1b", "AABb") + " " + answer("@pat a1b", "aaBB"));
@@ -227,6 +230,8 @@ public final class LinesEdgeTest {
         Desk.same("49 without, 50 with", "aaaaa/bbbbbccc/=", best("@pat b1c\naaaaa bbbbbccc"));
         Desk.same("64 without, 59 with", "aaaa bbbb-/ccccccc/=", best("@pat b1c\naaaa bbbbccccccc"));
         Desk.same("50 both ways: the first takes most", "aaaaa bbbbb-/ccc uu vvvvv/rrrrrr/=", best("@pat b1c\naaaaa bbbbbccc uu vvvvv rrrrrr"));
+        Desk.same("a - that is put must fit", "aaaa/bbbbbbbccc/=", best("@pat b1c\naaaa bbbbbbbccc"));
+        Desk.same("it just fits", "aaa bbbbbbb-/cccc/=", best("@pat b1c\naaa bbbbbbbcccc"));
         Desk.same("a dash costs no 50", "aaaaa bbbbb-/ccc/=", best("aaaaa bbbbb-ccc"));
         Desk.same("the square, not the sum", "aaaa bbb/cc ddddd/eeeeeeeeee/=", best("aaaa bbb cc ddddd eeeeeeeeee"));
         Desk.same("the last costs nothing", "aaaa bbb cc/d/=", best("aaaa bbb cc d"));

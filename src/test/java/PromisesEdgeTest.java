@@ -205,6 +205,9 @@ public final class PromisesEdgeTest {
         Desk.same("one letter", "1:New", replaced("O", "O\nnew", 4));
         Desk.same("one letter and signs", "1:New", replaced("O9-", "O9-\nnew", 4));
         Desk.same("two letters and signs", "1:NEW", replaced("9O-L", "9O-L\nnew", 4));
+        Desk.same("signs beside the alphabets are no letters", "1:NEW 1:NEW", replaced("O@L", "O@L\nnew", 4) + " " + replaced("O[L", "O[L\nnew", 4));
+        Desk.same("nor small ones", "1:NEW 1:NEW", replaced("O`L", "O`L\nnew", 4) + " " + replaced("O{L", "O{L\nnew", 4));
+        Desk.same("nor do they begin great", "1:new 1:new", replaced("@ol", "@ol\nnew", 4) + " " + replaced("[ol", "[ol\nnew", 4));
         Desk.same("one of them small", "1:New", replaced("OLd", "OLd\nnew", 4));
         Desk.same("no letters", "1:new", replaced("99", "99\nnew", 4));
         Desk.same("begins with another sign", "1:new", replaced("-Old", "-Old\nnew", 4));

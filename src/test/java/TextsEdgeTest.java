@@ -182,7 +182,7 @@ public final class TextsEdgeTest {
         is("9999", "\\add{9999}{0}");
         is("-9999", "\\add{-9999}{-0}");
         is("1", "\\add{0001}{0000}");
-        for (String wrong : new String[] {"", "-", "00001", "10000", "-10000", "--1", "1-", "+1", "1 ", " 1", "1.0", "a", "1a", "\\ "}) {
+        for (String wrong : new String[] {"", "-", "00001", "10000", "-10000", "--1", "1-", "+1", "1 ", " 1", "1.0", "a", "1a", "\\ ", "/", ":", "1/", "1:"}) {
             is("!-6", "\\add{" + wrong + "}{1}");
             is("!-6", "\\add{1}{" + wrong + "}");
             is("!-6", "\\mul{" + wrong + "}{1}");
@@ -209,7 +209,7 @@ public final class TextsEdgeTest {
         is("1", "\\step{a}{1}");
         is("1", "\\step{azAZ09azAZ09}{1}");
         is("??", "\\ref{azAZ09azAZ09}");
-        for (String wrong : new String[] {"", "azAZ09azAZ09a", "a b", " a", "a-", "a.b", "a\\ ", "\\_"}) {
+        for (String wrong : new String[] {"", "azAZ09azAZ09a", "a b", " a", "a-", "a.b", "a\\ ", "\\_", "/", ":", "@", "[", "`", "\\{"}) {
             is("!-6", "\\step{" + wrong + "}{1}");
             is("!-6", "\\show{" + wrong + "}{1}");
             is("!-6", "\\ref{" + wrong + "}");

@@ -154,6 +154,7 @@ public final class WorkEdgeTest {
         Desk.says("20 and 1 for each of its signs (a heading's number counts there alone).");
         costs("@set wide 12\n@set indent 0\naaaaaaa bbbbbb", "3@0 15@1 15@2 15@3" + Desk.times(" 1@3", 14) + " 27@3 26@3");
         costs("- a\n- ", "2@0 15@1 1@1 23@1 15@2 21@2");
+        costs("- a\n  b", "2@0 15@1 1@1 1@1 1@1 1@1 1@1 25@1");
         costs("\\rep{0}{x}", "1@0 15@1 20@1 5@1 1@1 5@1 1@1");
         Desk.says("not heads, SPACES, what is put on pages else");
         costs("@set head 1\n@set gap 3\n>a\n\n>b", "5@0 15@1 15@2 15@3 21@3 15@5 21@5");
