@@ -42,6 +42,17 @@ public final class FaultsEdgeTest {
     }
 
     private static void firstThatIsMet() {
+        Desk.says("1 a directive that isn't as told.");
+        fails("1@2", "a\n@x\n}");
+        fails("1@1", "@set wide 81\n}");
+        fails("1@1", "@def up 0\n}");
+        fails("1@1", "@pat 1\n}");
+        fails("1@1", "@word a\n}");
+        fails("1@1", "@toc \n}");
+        Desk.says("8 WORK. 9 too many.");
+        fails("8@1", "\\rep{50}{\\rep{50}{" + Desk.times("x", 24) + "}}");
+        fails("9@1", Desk.times("|", 10) + "x");
+        Desk.says("the first one that is met, as blocks are gone through, round by round)");
         fails("3@1", "\\zz}\n\n}");
         fails("2@1", "}\n@x");
         fails("1@1", "@x\n}");

@@ -37,6 +37,8 @@ public final class LinesEdgeTest {
     }
 
     private static void dashes() {
+        Desk.says("POINTS of a word are places behind a sign of it at which it may be parted:");
+        is("each word its own", "aaa bbb-bbb-/bbb ccc-ccc/=", "aaa bbb-bbb-bbb ccc-ccc");
         Desk.says("behind a - that is neither its first nor its last sign (nothing is put)");
         is("within", "aaaaaa bbb-/ccc/=", "aaaaaa bbb-ccc");
         is("just fits", "aaaaaaa bbb-/ccc/=", "aaaaaaa bbb-ccc");
@@ -226,6 +228,11 @@ public final class LinesEdgeTest {
     }
 
     private static void wayOneCosts() {
+        Desk.says("lines may end behind words and at points;");
+        Desk.same("behind words", "aaaa bbb/cc ddddd/eeeeeeeeee/=", best("aaaa bbb cc ddddd eeeeeeeeee"));
+        Desk.same("at a dash", "aaaa bbbbb-/ccc/=", best("aaaa bbbbb-ccc"));
+        Desk.same("at a hyphen point", "aaa bbbbbb-/ccccccc/=", best("@pat b1c\naaa bbbbbbccccccc"));
+        Desk.same("nowhere else", "aaa/bbbbbbccccc/=", best("aaa bbbbbbccccc"));
         Desk.says("one that isn't the last costs the square of what is left of its room, and 50 if a - was put; the last costs nothing.");
         Desk.same("49 without, 50 with", "aaaaa/bbbbbccc/=", best("@pat b1c\naaaaa bbbbbccc"));
         Desk.same("64 without, 59 with", "aaaa bbbb-/ccccccc/=", best("@pat b1c\naaaa bbbbccccccc"));

@@ -146,6 +146,12 @@ public final class PagesEdgeTest {
     }
 
     private static void cuts() {
+        Desk.says("@page: a CUT.");
+        is("one", "1/=2/=", LOW + raw(1, 1) + "@page\n" + raw(2, 2));
+        is("two are one", "1/=2/=", LOW + raw(1, 1) + "@page\n@page\n" + raw(2, 2));
+        is("one at the end is none", "1/=", LOW + raw(1, 1) + "@page");
+        is("one ahead is none", "1/=", LOW + "@page\n" + raw(1, 1));
+        is("it parts a list's numbers, too", "1. a/=1. b/=", LOW + "# a\n@page\n# b");
         Desk.says("It ends behind a line: where a CUT or nothing is next, if all fits up to there;");
         is("a CUT", "1/2/=3/=", LOW + raw(1, 2) + "@page\n" + raw(3, 3));
         is("behind a heading", "1/2//1 h/=3/=", LOW + raw(1, 2) + "= h\n@page\n" + raw(3, 3));

@@ -6,6 +6,7 @@ public final class PromisesEdgeTest {
 
     public static void main(String[] args) {
         newObject();
+        ownMemory();
         feed();
         write();
         add();
@@ -20,6 +21,7 @@ public final class PromisesEdgeTest {
         find();
         letter();
         set();
+        pages();
         readsOfAProof();
         origin();
         labelled();
@@ -69,6 +71,20 @@ public final class PromisesEdgeTest {
         Desk.same("set", 0, room.set());
         Desk.same("a proof of no pages", "0", thrown(() -> room.pages()));
         Desk.same("none kept", "state", thrown(() -> room.changed(0)));
+    }
+
+    private static void ownMemory() {
+        Desk.says("All memory is the class's own.");
+        Desk one = new Desk();
+        Desk two = new Desk();
+        one.set("@def m 0 x\n@pat a1b\na\\label{k}");
+        one.room.keep();
+        one.feed("tape");
+        Desk.same("another object has nothing of it", "0 0 0 0 0", two.room.count(0) + " " + two.room.count(1) + " " + two.room.count(14) + " "
+            + two.room.count(15) + " " + two.room.count(16));
+        two.set("= b\n}");
+        Desk.same("nor does it change it", "4 1 1 1", one.room.count(0) + " " + one.room.pages() + " " + one.room.count(16) + " " + one.room.count(7));
+        Desk.same("kept", 0, one.room.changed(0));
     }
 
     private static void feed() {
@@ -151,6 +167,13 @@ public final class PromisesEdgeTest {
     }
 
     private static void replaceFinds() {
+        Desk.says("The TAPE is OLD (up to its first 10; 1 to 60 signs) and NEW (all behind that)");
+        Desk.same("up to its first 10", "1:a\nc", replaced("ab", "b\n\nc", 0));
+        Desk.same("OLD has no 10", "0:b\n", replaced("b\n", "c\nb\n", 0));
+        Desk.same("1 sign", "1:x", replaced("a", "a\nx", 0));
+        Desk.same("60 signs", "1:x", replaced(Desk.times("a", 60), Desk.times("a", 60) + "\nx", 0));
+        Desk.same("61 signs", -2, Integer.parseInt(replaced("a", Desk.times("a", 61) + "\nx", 0).split(":")[0]));
+        Desk.same("a blank is a sign", "1:axb", replaced("a b", " \nx", 0));
         Desk.says("wherever OLD stands in the MANUSCRIPT, from its beginning on, each time going on behind what was found, NEW comes in its place: how "
             + "many times.");
         Desk.same("at both ends", "2:xbx", replaced("aba", "a\nx", 0));
@@ -431,6 +454,35 @@ public final class PromisesEdgeTest {
         Desk.same("the proof is as it was set", "  a/=", desk.proof());
     }
 
+    private static void pages() {
+        Desk.says("How many pages the PROOF has. IllegalStateException: there is none.");
+        Desk desk = new Desk();
+        Desk.same("none", "state", thrown(() -> desk.room.pages()));
+        desk.set("");
+        Desk.same("of nothing", "0", thrown(() -> desk.room.pages()));
+        desk.set("a\n@page\nb");
+        Desk.same("two", "2", thrown(() -> desk.room.pages()));
+        Desk.same("99", "99", desk.set(Desk.times(">\n@page\n", 99)) == 0 ? thrown(() -> desk.room.pages()) : "fault");
+        desk.set("@x");
+        Desk.same("none behind a fault", "state", thrown(() -> desk.room.pages()));
+        Desk.says("How many lines a page has (from 0 on).");
+        desk.set("@set high 5\n>a\n>b\n>c\n>d\n>e\n>f");
+        Desk.same("page 0, page 1", "5 1", desk.room.lines(0) + " " + desk.room.lines(1));
+        Desk.says("How many signs a line of a page has.");
+        desk.set("@set wide 80\n>\n>a\n>" + Desk.times("b", 80));
+        Desk.same("0, 1, 80", "0 1 80", desk.room.length(0, 0) + " " + desk.room.length(0, 1) + " " + desk.room.length(0, 2));
+        Desk.says("A sign of a line.");
+        StringBuilder all = new StringBuilder();
+        for (char sign = 32; sign <= 126; sign++) {
+            all.append(sign);
+        }
+        desk.set("@set wide 80\n>" + all.substring(0, 48) + "\n>" + all.substring(48));
+        Desk.same("each sign there is", all.toString(), desk.line(0, 0) + desk.line(0, 1));
+        Desk.says("Its style.");
+        desk.set("a*b_c*d");
+        Desk.same("0 to 3", "000132", desk.styles(0, 0));
+    }
+
     private static void readsOfAProof() {
         Desk.says("IllegalStateException: no PROOF. IndexOutOfBoundsException: no such page (likewise below: page, line, sign).");
         Desk desk = new Desk();
@@ -472,7 +524,7 @@ public final class PromisesEdgeTest {
 
     private static void origin() {
         Desk.says("The LINE of the block that a line of a page is of (of a note's line: of its mark's block); 0 of a head, of an empty line between "
-            + "blocks or ahead of notes");
+            + "blocks or ahead of notes, of the line of -.");
         Desk desk = new Desk();
         desk.set("@set head 1\n@set high 16\n@set wide 12\n= a\n@toc\nb\nc\\note{d eeeeeeeee}\n\n\n- f\n g\n>h\n>\n");
         Desk.same("of all kinds", "0 0 4 0 5 0 6 0 10 0 12 12 0 0 6 6", desk.origins(0));
@@ -651,6 +703,11 @@ public final class PromisesEdgeTest {
         Desk.says("what 0: how many of the PROOF's, 1: of the KEPT one's are beside the longest row that both have (its lines in the same order in both, "
             + "others between); 2: the first place (from 0 on) at which they aren't the same, or one has ended; NONE without one.");
         Desk.same("the same", "0 0 -1", changes(raw("abc"), raw("abc")));
+        Desk.says("Of the lines of all pages, one behind the other, by their signs:");
+        Desk.same("all pages", "1 0 2", changes(">a\n@page\n>b", ">a\n@page\n>b\n@page\n>c"));
+        Desk.same("heads count", "2 0 0", changes(">a", "@set head 1\n>a"));
+        Desk.same("notes count", "1 1 23", changes("a\\note{b}", "a\\note{c}"));
+        Desk.says("are beside the longest row that both have (its lines in the same order in both, others between)");
         Desk.same("nothing and nothing", "0 0 -1", changes("", ""));
         Desk.same("one more at the end", "1 0 3", changes(raw("abc"), raw("abcd")));
         Desk.same("one more ahead", "1 0 0", changes(raw("abc"), raw("xabc")));
@@ -728,6 +785,10 @@ public final class PromisesEdgeTest {
         for (int i = 0; i < due.length; i++) {
             Desk.same("count " + (i + 3), due[i], desk.room.count(i + 3));
         }
+        Desk.says("9 rounds, 10 whether it is SETTLED (1), 11 how many ?? its round gave, 12 lines of all pages;");
+        desk.set("a\\ref{k}\\label{k}\\page{x}\n@page\n>b\n>c");
+        Desk.same("9 to 12", "2 1 1 3", desk.room.count(9) + " " + desk.room.count(10) + " " + desk.room.count(11) + " " + desk.room.count(12));
+        desk.set(text);
         desk.write("z");
         Desk.same("until the next set", 2, desk.room.count(3));
         desk.set(text + "}");

@@ -16,6 +16,7 @@ public final class RoundsEdgeTest {
         nothingElseMatters();
         theFifth();
         ofTheRoundBefore();
+        allBlocksInEachRound();
         nothingStays();
         Desk.close();
     }
@@ -178,6 +179,19 @@ public final class RoundsEdgeTest {
         Desk.same("labelled", 0, desk.room.labelled());
         Desk.says("what ref and page would give in a round behind that of the PROOF");
         Desk.same("told", "1", desk.told("\\page{a}"));
+    }
+
+    private static void allBlocksInEachRound() {
+        Desk.says("In each round all blocks are gone through, and the pages are made.");
+        Desk desk = new Desk();
+        desk.set("@def m 0 x\n@pat a1b\n@word ab\n= h\n\\m\\note{n}\\step{a}{1}");
+        Desk.same("rounds", 2, desk.room.count(9));
+        Desk.same("macros, patterns, exceptions, notes, headings, pages of one round", "1 1 1 1 1 1",
+            desk.room.count(16) + " " + desk.room.count(17) + " " + desk.room.count(18) + " " + desk.room.count(4) + " " + desk.room.count(5)
+            + " " + desk.room.count(3));
+        Desk.same("counters of one round", "  x[1]1", desk.line(0, 2));
+        desk.set("a\\label{k}\n@page\nb\\if{\\page{k}}{??}{}{\\label{l}}\n@page\nc");
+        Desk.same("pages of the last round", "3 3", desk.room.count(9) + " " + desk.room.pages());
     }
 
     /** What a set answers and shows doesn't depend on what the room did before. */

@@ -4,6 +4,7 @@ public final class TermsEdgeTest {
 
     public static void main(String[] args) {
         signs();
+        letters();
         tape();
         tapeIsTaken();
         tapeStays();
@@ -33,6 +34,23 @@ public final class TermsEdgeTest {
             room.write();
             Desk.same("letter " + sign, good ? (int) sign : TypeRoom.NONE, room.letter(0));
         }
+    }
+
+    private static void letters() {
+        Desk.says("LETTERS are a to z (SMALL) and A to Z (GREAT); BLANK is 32.");
+        for (char sign = 33; sign <= 126; sign++) {
+            boolean small = sign >= 'a' && sign <= 'z';
+            boolean great = sign >= 'A' && sign <= 'Z';
+            Desk desk = new Desk();
+            desk.feed("" + sign);
+            Desk.same("letters alone are parted: " + sign, small || great ? 0 : -1, desk.room.hyphens());
+            String text = (small || great ? "" : "\\") + sign;
+            Desk.same("great: " + sign, "" + (small ? (char) (sign - 32) : sign), desk.told("\\up{" + text + "}"));
+            Desk.same("small: " + sign, "" + (great ? (char) (sign + 32) : sign), desk.told("\\low{" + text + "}"));
+            Desk.same("further on: " + sign, small || great, !desk.told("\\rot{1}{" + text + "}").equals("" + sign));
+            Desk.same("a name: " + sign, (small || great) ? 0 : 17, desk.set("@def x" + sign + " 0"));
+        }
+        is("a blank parts words", "a b/=", "a b");
     }
 
     private static void tape() {

@@ -363,6 +363,12 @@ public final class TextsEdgeTest {
     }
 
     private static void digits() {
+        Desk.says("num N Y: N in a system.");
+        is("12 xii XII l c", "\\num{12}{1} \\num{12}{2} \\num{12}{3} \\num{12}{4} \\num{12}{5}");
+        Desk.says("Then comes what the call asks of them, from the left (5).");
+        is("!-4", "\\rep{51}{\\zz}");
+        is("!-5", "\\rep{51}{\\up}");
+        is("!-6", "\\step{}{\\step{a}{1}}");
         Desk.says("SYSTEMS: 1 digits (- ahead of what is below 0)");
         is("0 9 10 9999 -1 -9999", "\\num{0}{1} \\num{9}{1} \\num{10}{1} \\num{9999}{1} \\num{-1}{1} \\num{-9999}{1}");
     }
