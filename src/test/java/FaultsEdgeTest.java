@@ -195,6 +195,13 @@ public final class FaultsEdgeTest {
         desk.set(chain.toString());
         Desk.same("bodies: 26 and 4 groups", "x", desk.told(nested("{", 4, "\\mz", "}")));
         Desk.same("bodies: 26 and 5 groups", "!-8", desk.told(nested("{", 5, "\\mz", "}")));
+        desk.set("@def o 0 {\n@def u 0 \\up{x\n@def e 0 ");
+        Desk.same("its } is looked for first", "!-3", desk.told(nested("{", 29, "\\o", "}")));
+        Desk.same("an argument's, too", "!-3", desk.told(nested("{", 29, "\\u", "}")));
+        Desk.same("an argument that is missing", "!-5", desk.told(nested("{", 30, "\\up", "}")));
+        Desk.same("a call that there is not", "!-4", desk.told(nested("{", 30, "\\zz", "}")));
+        Desk.same("a body of nothing as the 30th", "", desk.told(nested("{", 29, "\\e", "}")));
+        Desk.same("as the 31st", "!-8", desk.told(nested("{", 30, "\\e", "}")));
         Desk.same("in headings, too", "fault 7@1", desk.shown("= " + nested("{", 31, "x", "}")));
         Desk.same("in cells, too", "fault 7@1", desk.shown("|" + nested("{", 31, "x", "}")));
         Desk.same("30 in cells", "x/-/=", desk.shown("|" + nested("{", 30, "x", "}")));

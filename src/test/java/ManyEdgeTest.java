@@ -51,6 +51,7 @@ public final class ManyEdgeTest {
         Desk.says("all of them are looked at ahead of 9.");
         Desk.same("the last is none", 1 + 16, desk.set("@pat a" + Desk.times(" b", 120) + " 1"));
         Desk.same("none came", 0, desk.room.count(17));
+        Desk.same("behind 120", 1 + 16 * 2, desk.set("@pat a" + Desk.times(" b", 119) + "\n@pat 1"));
     }
 
     private static void exceptions() {
@@ -63,6 +64,7 @@ public final class ManyEdgeTest {
         Desk.same("in each round anew", 0, desk.set("@word ab" + Desk.times(" ab", 59) + "\n= h"));
         Desk.same("the last is none", 1 + 16, desk.set("@word ab" + Desk.times(" ab", 60) + " a"));
         Desk.same("none came", 0, desk.room.count(18));
+        Desk.same("behind 60", 1 + 16 * 2, desk.set("@word ab" + Desk.times(" ab", 59) + "\n@word a"));
     }
 
     private static void notes() {
