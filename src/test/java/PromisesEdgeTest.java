@@ -379,6 +379,18 @@ public final class PromisesEdgeTest {
         }
         Desk.same("not the seventh", false, desk.room.back());
         Desk.same("stays", 1, desk.room.count(1));
+        Desk again = new Desk();
+        for (int i = 1; i <= 7; i++) {
+            again.write("text " + i);
+        }
+        again.room.back();
+        again.write("text 8");
+        again.write("text 9");
+        for (int due : new int[] {8, 6, 5, 4, 3, 2}) {
+            Desk.same("behind a back: true", true, again.room.back());
+            Desk.same("the one ahead of it that was done", "text " + due, again.manuscript());
+        }
+        Desk.same("six in all", false, again.room.back());
         desk.room.write();
         Desk.same("an empty one is done", 1, desk.room.count(15));
         desk.room.add();
