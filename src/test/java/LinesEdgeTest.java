@@ -188,6 +188,14 @@ public final class LinesEdgeTest {
         String shown = "    i. x/    ii. x/    iii. x/    iv. x/    v. x/    vi. x/    vii. x/";
         is("4 at least", shown + "    viii. abcd/          efgh/          i/=", roman + "    # abcdefghi");
         is("of others, too", shown + "    viii. ab/          cdef/=", roman + "    # ab cdef");
+        Desk desk = new Desk();
+        desk.set(PLAIN + "@set high 60\n" + Desk.times("= a\n", 10) + Desk.times("== a\n", 10) + Desk.times("=== a\n", 9)
+            + "@page\n=== abc defgh");
+        Desk.same("4 at least of a heading's others", "10.10.10 abc/         defg/         h/", desk.page(desk.room.pages() - 1));
+        desk.set(PLAIN + "@set high 60\n" + Desk.times("    # a\n", 37) + "    # abcde");
+        Desk.same("FIRST beyond wide", "    xxxviii. abcd/             e", desk.line(0, 37) + "/" + desk.line(0, 38));
+        desk.set(PLAIN + "@set high 60\n@set justify 1\n" + Desk.times("    # a\n", 8));
+        Desk.same("justified within 4 at least", "    viii.    a", desk.line(0, 7));
         is("a heading's", "0.0.1 aaaaaa/      bbbbbb/=", "=== aaaaaa bbbbbb");
         is("a heading's too little", "0.0.1/      aaaaaa/      a/      bbbbbb/=", "=== aaaaaaa bbbbbb");
     }
