@@ -1,7 +1,7 @@
 import java.util.ArrayList;
 import java.util.List;
 
-/** Part 6 read word by word: pages of many texts, held against the room. */
+/** Part 6 read word by word: pages of many texts, and what it costs to set them, held against the room. */
 public final class PagesTrialTest {
     private static int seed = 11;
 
@@ -46,6 +46,7 @@ public final class PagesTrialTest {
         private int keep = 2;
         private int notes;
         private int headings;
+        private int work;
         private boolean begun;
         private boolean item;
 
@@ -57,10 +58,15 @@ public final class PagesTrialTest {
             put("@set wide 14");
             put("@set indent 0");
             put("@set justify 0");
+            work = 5 * 15;
             for (int i = 1 + random(9); i > 0; i--) {
+                work += 15;
                 block();
             }
-            Desk.same(text.toString(), pages(high, head), shown(text.toString()));
+            Desk desk = new Desk();
+            Desk.same(text.toString(), pages(high, head), shown(desk, text.toString()));
+            // Headings are marks: a second round finds them as they were.
+            Desk.same("work of " + text, (headings > 0 ? 2 : 1) * (lines + work), desk.room.count(13));
         }
 
         private void put(String line) {
@@ -99,6 +105,14 @@ public final class PagesTrialTest {
             }
         }
 
+        /** A line that is made. */
+        private Piece made(String line, boolean mayEnd, int origin) {
+            work += 20 + line.length();
+            Piece piece = new Piece(line, false, mayEnd, origin);
+            flow.add(piece);
+            return piece;
+        }
+
         private void spaces(int many) {
             for (int i = 0; begun && i < many; i++) {
                 flow.add(new Piece(null, false, false, 0));
@@ -110,9 +124,8 @@ public final class PagesTrialTest {
             headings++;
             spaces(Math.max(1, gap));
             put("= h");
-            Piece piece = new Piece(headings + " h", false, false, lines);
-            piece.title = headings + " h";
-            flow.add(piece);
+            work++;
+            made(headings + " h", false, lines).title = headings + " h";
             item = false;
         }
 
@@ -121,7 +134,7 @@ public final class PagesTrialTest {
             int first = lines + 1;
             for (int i = 1 + random(7); i > 0; i--) {
                 put(">r" + i);
-                flow.add(new Piece("r" + i, false, true, first));
+                made("r" + i, true, first);
             }
             put("");
             item = false;
@@ -135,12 +148,13 @@ public final class PagesTrialTest {
             for (int i = 0; i < rows; i++) {
                 boolean two = i > 0 && random(2) == 0;
                 put(two ? "|cccccccccccccc d" : "|cccccccccccccc");
-                flow.add(new Piece("cccccccccccccc", false, i > 0 && !two, first));
+                work += 15 + (two ? 16 : 14);
+                made("cccccccccccccc", i > 0 && !two, first);
                 if (two) {
-                    flow.add(new Piece("d", false, true, first));
+                    made("d", true, first);
                 }
                 if (i == 0) {
-                    flow.add(new Piece("--------------", false, false, first));
+                    made("--------------", false, first);
                 }
             }
             put("");
@@ -156,22 +170,23 @@ public final class PagesTrialTest {
                 boolean mayEnd = i + 1 == many || i + 1 >= keep && many - i - 1 >= keep;
                 String word = "wwwwwww" + i;
                 String shown = (asItem ? i == 0 ? "- " : "  " : "") + word;
-                List<String> made = new ArrayList<>();
+                List<String> below = new ArrayList<>();
+                work += word.length() + (i > 0 ? 1 : 0);
                 if (random(6) == 0) {
                     notes++;
                     shown += "[" + notes + "]";
                     String note = Desk.times("nnnnnnnn ", 1 + random(random(5) == 0 ? 9 : 3)).trim();
                     word += "\\note{" + note + "}";
+                    work += 20 + 5 + note.length() + ("[" + notes + "]").length();
                     String ahead = notes + ". ";
                     for (String part : note.split(" ")) {
-                        made.add(ahead + part);
+                        below.add(ahead + part);
+                        work += 20 + ahead.length() + part.length();
                         ahead = Desk.times(" ", ahead.length());
                     }
                 }
                 row.append(i > 0 ? " " : "").append(word);
-                Piece piece = new Piece(shown, false, mayEnd, lines + 1);
-                piece.notes.addAll(made);
-                flow.add(piece);
+                made(shown, mayEnd, lines + 1).notes.addAll(below);
             }
             put(row.toString());
             if (!asItem || random(2) == 0) {
@@ -266,8 +281,7 @@ public final class PagesTrialTest {
     }
 
     /** All pages with the origins of their lines. */
-    private static String shown(String text) {
-        Desk desk = new Desk();
+    private static String shown(Desk desk, String text) {
         int fault = desk.set(text);
         if (fault != 0) {
             return "fault " + fault;
