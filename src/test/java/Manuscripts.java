@@ -309,7 +309,7 @@ final class Manuscripts {
     /** As many as there may be of one kind, or nearly so, or too many. */
     private String many() {
         int over = upTo(3) - 2;
-        switch (upTo(11)) {
+        switch (upTo(12)) {
             case 0:
                 return times("@def &q 0 x\n", 40 + over) + "@def aaq 1 #1\n\\aaq{x}\n";
             case 1:
@@ -332,6 +332,9 @@ final class Manuscripts {
                 return pick("", "@set high 60\n") + times(">\n", 1500 + over);
             case 10:
                 return pick("@set high 5\n", "@set high 7\n@set head 1\n@set first 900\n") + times(">\n", 5 * (99 + over) - upTo(3));
+            case 11:
+                // So much work that a second round may not even begin.
+                return "@def m 0 z\n@pat a1b\n@word a-b\nx\\label{k}\\rep{50}{" + times("x", 400 + upTo(60)) + "}\n" + times("\n", 3400);
             default:
                 return "@def g 1 \\up{#1}\n" + "{".repeat(15) + "\\g{".repeat(14 + over) + "x" + "}".repeat(29 + over) + "\n";
         }
